@@ -113,8 +113,8 @@ public final class FoldForge {
     if (!made || i < 0 || i >= kept.exports || what < -2) {
       return NONE_SUCH;
     }
-    int kind = kept.exportKinds[i];
-    int number = kept.exportNumbers[i];
+    int kind = kept.kindOf(i);
+    int number = kept.numberOf(i);
     if (what < 0) {
       return kind != 0 ? NONE_SUCH : shapeOf(number, what);
     }
@@ -124,11 +124,11 @@ public final class FoldForge {
     if (what == 1) {
       return number;
     }
-    int length = kept.exportNames[2 * i + 1];
+    int length = kept.exportRows[4 * i + 1];
     if (what == 2) {
       return length;
     }
-    int at = kept.exportNames[2 * i] + what - 3;
+    int at = kept.exportRows[4 * i] + what - 3;
     return what - 3 < length ? kept.text[at] & 255 : NONE_SUCH;
   }
 
@@ -146,10 +146,10 @@ public final class FoldForge {
   }
 
   public int run(int i, int steps) {
-    if (!made || i < 0 || i >= kept.exports || kept.exportKinds[i] != 0) {
+    if (!made || i < 0 || i >= kept.exports || kept.kindOf(i) != 0) {
       return -1;
     }
-    int function = kept.exportNumbers[i];
+    int function = kept.numberOf(i);
     if (kept.argumentsOf(kept.functionTypes[function]) > ARGUMENTS) {
       return -1;
     }
@@ -274,10 +274,11 @@ public final class FoldForge {
     }
 
     private void expect(int value) {
-      int where = at;
-      if (next() != value) {
-        fail(MALFORMED, where);
+      if (at >= end || (text[at] & 255) != value) {
+        fail(MALFORMED, Math.min(at, end));
+        return;
       }
+      at++;
     }
 
     private long unsigned() {
@@ -364,6 +365,7 @@ public final class FoldForge {
   private static final class ModuleRows {
     private final byte[] text = new byte[TAPE_ROOM];
     private int types;
+    // where its ARGUMENTS stand in the text, how many they are, what it gives
     private final int[] typeRows = new int[3 * VEC_MOST];
     private int functions;
     private final int[] functionTypes = new int[VEC_MOST];
@@ -372,13 +374,18 @@ public final class FoldForge {
     private int memories;
     private final long[] memoryLimits = new long[2];
     private int globals;
+    // its VALUE TYPE, whether it may be set, how its worth is told
     private final int[] globalRows = new int[3 * VEC_MOST];
     private final long[] globalValues = new long[VEC_MOST];
     private int exports;
-    private final int[] exportNames = new int[2 * VEC_MOST];
-    private final int[] exportKinds = new int[VEC_MOST];
-    private final int[] exportNumbers = new int[VEC_MOST];
-    private final ElementRows elements = new ElementRows();
+    // where its name stands in the text, the name's bytes, its kind, its number
+    private final int[] exportRows = new int[4 * VEC_MOST];
+    private int elements;
+    // how its offset is told, where its FUNCTIONS begin in the list of all, how many they are
+    private final int[] elementRows = new int[3 * VEC_MOST];
+    private final long[] elementOffsets = new long[VEC_MOST];
+    private int listed;
+    private final int[] elementFunctions = new int[TAPE_ROOM];
     private final CodeRows codes = new CodeRows();
 
     private void clear() {
@@ -388,11 +395,19 @@ public final class FoldForge {
       memories = 0;
       globals = 0;
       exports = 0;
-      elements.size = 0;
-      elements.listed = 0;
+      elements = 0;
+      listed = 0;
       codes.size = 0;
       codes.instructions = 0;
       codes.labels = 0;
+    }
+
+    private int kindOf(int export) {
+      return exportRows[4 * export + 2];
+    }
+
+    private int numberOf(int export) {
+      return exportRows[4 * export + 3];
     }
 
     private int argumentsOf(int type) {
@@ -419,17 +434,6 @@ public final class FoldForge {
       }
       return true;
     }
-  }
-
-  /** ELEMENTS: offset, and where their FUNCTIONS stand in one list. */
-  private static final class ElementRows {
-    private int size;
-    private final int[] operators = new int[VEC_MOST];
-    private final long[] offsets = new long[VEC_MOST];
-    private final int[] starts = new int[VEC_MOST];
-    private final int[] lengths = new int[VEC_MOST];
-    private int listed;
-    private final int[] functions = new int[TAPE_ROOM];
   }
 
   /** INSTRUCTIONS of all CODES in one row; a label's three places are filled as it is judged. */
@@ -488,14 +492,21 @@ public final class FoldForge {
       }
       latestId = 0;
       for (int k = 0; k < TAPE_ROOM && scan.fine() && scan.at < n; k++) {
-        section(rows, n);
+        int id = sectionId();
+        if (id == 10) {
+          codeReader.read(scan, rows.codes);
+        } else {
+          content(rows, id);
+        }
+        scan.widen(n);
       }
       if (rows.functions != rows.codes.size) {
         scan.fail(MALFORMED, n);
       }
     }
 
-    private void section(ModuleRows rows, int n) {
+    /** Reads the size, too: up to there the scan goes. */
+    private int sectionId() {
       int where = scan.at;
       int id = scan.next();
       if (id == 2 || id == 8 || id == 11) {
@@ -505,53 +516,53 @@ public final class FoldForge {
       }
       if (scan.fine()) {
         scan.narrow();
+        latestId = id == 0 ? latestId : id;
       }
+      return id;
+    }
+
+    private void content(ModuleRows rows, int id) {
       if (!scan.fine()) {
         return;
       }
       if (id == 0) {
         skipName();
-        scan.at = scan.fine() ? scan.end : scan.at;
-      } else {
-        latestId = id;
-        content(rows, id);
+        scan.at = scan.end;
+        return;
       }
-      scan.widen(n);
-    }
-
-    private void content(ModuleRows rows, int id) {
       int n = scan.vec();
       for (int k = 0; k < n && scan.fine(); k++) {
-        switch (id) {
-          case 1:
-            type(rows);
-            break;
-          case 3:
-            rows.functionTypes[k] = (int) scan.unsigned();
-            rows.functions++;
-            break;
-          case 4:
-            scan.expect(112);
-            limits(rows.tableLimits);
-            rows.tables++;
-            break;
-          case 5:
-            limits(rows.memoryLimits);
-            rows.memories++;
-            break;
-          case 6:
-            oneGlobal(rows, k);
-            break;
-          case 7:
-            oneExport(rows, k);
-            break;
-          case 9:
-            element(rows.elements, k);
-            break;
-          default:
-            codeReader.read(scan, rows.codes, k);
-            break;
-        }
+        thing(rows, id, k);
+      }
+    }
+
+    private void thing(ModuleRows rows, int id, int k) {
+      switch (id) {
+        case 1:
+          type(rows);
+          break;
+        case 3:
+          rows.functionTypes[k] = (int) scan.unsigned();
+          rows.functions++;
+          break;
+        case 4:
+          scan.expect(112);
+          limits(rows.tableLimits);
+          rows.tables++;
+          break;
+        case 5:
+          limits(rows.memoryLimits);
+          rows.memories++;
+          break;
+        case 6:
+          oneGlobal(rows, k);
+          break;
+        case 7:
+          oneExport(rows, k);
+          break;
+        default:
+          element(rows, k);
+          break;
       }
     }
 
@@ -643,40 +654,42 @@ public final class FoldForge {
     }
 
     private void oneExport(ModuleRows rows, int k) {
+      int row = 4 * k;
       int length = skipName();
-      rows.exportNames[2 * k] = scan.at - length;
-      rows.exportNames[2 * k + 1] = length;
+      rows.exportRows[row] = scan.at - length;
+      rows.exportRows[row + 1] = length;
       if (!scan.fine()) {
         return;
       }
       int where = scan.at;
-      rows.exportKinds[k] = scan.next();
-      if (rows.exportKinds[k] > 3) {
+      rows.exportRows[row + 2] = scan.next();
+      if (rows.exportRows[row + 2] > 3) {
         scan.fail(MALFORMED, where);
       }
-      rows.exportNumbers[k] = scan.fine() ? (int) scan.unsigned() : 0;
+      rows.exportRows[row + 3] = scan.fine() ? (int) scan.unsigned() : 0;
       rows.exports++;
     }
 
-    private void element(ElementRows elements, int k) {
+    private void element(ModuleRows rows, int k) {
+      int row = 3 * k;
       int where = scan.at;
       if (scan.unsigned() != 0) {
         scan.fail(MALFORMED, where);
       }
-      elements.operators[k] = operator();
-      elements.offsets[k] = constant(elements.operators[k]);
+      rows.elementRows[row] = operator();
+      rows.elementOffsets[k] = constant(rows.elementRows[row]);
       int n = scan.fine() ? scan.vec() : 0;
-      elements.starts[k] = elements.listed;
-      elements.lengths[k] = n;
-      for (int j = 0; j < n && scan.fine() && elements.listed < TAPE_ROOM; j++) {
-        elements.functions[elements.listed] = (int) scan.unsigned();
-        elements.listed++;
+      rows.elementRows[row + 1] = rows.listed;
+      rows.elementRows[row + 2] = n;
+      for (int j = 0; j < n && scan.fine() && rows.listed < TAPE_ROOM; j++) {
+        rows.elementFunctions[rows.listed] = (int) scan.unsigned();
+        rows.listed++;
       }
-      elements.size++;
+      rows.elements++;
     }
   }
 
-  /** READING of one CODE. */
+  /** READING of the CODES. */
   private static final class CodeReader {
     private static final int OPEN_MOST = 20;
     // what stands open: the INSTRUCTION's number, of an if behind its 5 that of the 5
@@ -698,26 +711,26 @@ public final class FoldForge {
       return op == 16 || (op >= 32 && op <= 36);
     }
 
-    private void read(Scan scan, CodeRows rows, int code) {
+    private void read(Scan scan, CodeRows rows) {
       int outerEnd = scan.end;
-      scan.narrow();
-      if (!scan.fine()) {
-        return;
+      int n = scan.fine() ? scan.vec() : 0;
+      for (int code = 0; code < n && scan.fine(); code++) {
+        scan.narrow();
+        locals(scan, rows, code);
+        rows.starts[code] = rows.instructions;
+        depth = 0;
+        boolean closed = false;
+        for (int k = 0; k < TAPE_ROOM && scan.fine() && !closed; k++) {
+          closed = instruction(scan, rows);
+        }
+        rows.ends[code] = Math.max(0, rows.instructions - 1);
+        rows.size++;
+        scan.widen(outerEnd);
       }
-      locals(scan, rows, code);
-      rows.starts[code] = rows.instructions;
-      depth = 0;
-      boolean closed = false;
-      for (int k = 0; k < TAPE_ROOM && scan.fine() && !closed; k++) {
-        closed = instruction(scan, rows);
-      }
-      rows.ends[code] = Math.max(0, rows.instructions - 1);
-      rows.size++;
-      scan.widen(outerEnd);
     }
 
     private void locals(Scan scan, CodeRows rows, int code) {
-      int groups = scan.vec();
+      int groups = scan.fine() ? scan.vec() : 0;
       int had = 0;
       for (int k = 0; k < groups && scan.fine(); k++) {
         int where = scan.at;
@@ -752,6 +765,8 @@ public final class FoldForge {
         rows.add(op);
       } else if (isRefused(op)) {
         scan.fail(REFUSED, where);
+      } else if (op == 14) {
+        branchTable(scan, rows);
       } else {
         withOperands(scan, rows, op, where);
       }
@@ -798,8 +813,6 @@ public final class FoldForge {
       if (op == 12 || op == 13) {
         rows.first[here] = rows.labels;
         rows.addLabel(scan.unsigned());
-      } else if (op == 14) {
-        branchTable(scan, rows, here);
       } else if (hasNumber(op)) {
         rows.first[here] = (int) scan.unsigned();
       } else if (op == 17) {
@@ -823,7 +836,8 @@ public final class FoldForge {
       }
     }
 
-    private void branchTable(Scan scan, CodeRows rows, int here) {
+    private void branchTable(Scan scan, CodeRows rows) {
+      int here = rows.add(14);
       rows.first[here] = rows.labels;
       int n = scan.vec();
       rows.second[here] = n;
@@ -904,8 +918,8 @@ public final class FoldForge {
 
     private boolean exportsFit() {
       for (int i = 0; i < rows.exports; i++) {
-        int number = rows.exportNumbers[i];
-        if (number < 0 || number >= thingsOfKind(rows.exportKinds[i])) {
+        int number = rows.numberOf(i);
+        if (number < 0 || number >= thingsOfKind(rows.kindOf(i))) {
           return false;
         }
         for (int j = 0; j < i; j++) {
@@ -931,12 +945,14 @@ public final class FoldForge {
     }
 
     private boolean sameName(int i, int j) {
-      int length = rows.exportNames[2 * i + 1];
-      if (length != rows.exportNames[2 * j + 1]) {
+      int one = rows.exportRows[4 * i];
+      int other = rows.exportRows[4 * j];
+      int length = rows.exportRows[4 * i + 1];
+      if (length != rows.exportRows[4 * j + 1]) {
         return false;
       }
       for (int k = 0; k < length; k++) {
-        if (rows.text[rows.exportNames[2 * i] + k] != rows.text[rows.exportNames[2 * j] + k]) {
+        if (rows.text[one + k] != rows.text[other + k]) {
           return false;
         }
       }
@@ -944,14 +960,13 @@ public final class FoldForge {
     }
 
     private boolean elementsFit() {
-      ElementRows elements = rows.elements;
-      for (int e = 0; e < elements.size; e++) {
-        if (rows.tables == 0 || elements.operators[e] != 65) {
+      for (int e = 0; e < rows.elements; e++) {
+        if (rows.tables == 0 || rows.elementRows[3 * e] != 65) {
           return false;
         }
       }
-      for (int k = 0; k < elements.listed; k++) {
-        if (elements.functions[k] < 0 || elements.functions[k] >= rows.functions) {
+      for (int k = 0; k < rows.listed; k++) {
+        if (rows.elementFunctions[k] < 0 || rows.elementFunctions[k] >= rows.functions) {
           return false;
         }
       }
@@ -1070,10 +1085,13 @@ public final class FoldForge {
     }
 
     private void closePart() {
-      if (depth > 0) {
-        popGiven(gives[depth - 1]);
-        sound = sound && height == floor[depth - 1];
+      if (depth == 0) {
+        return;
       }
+      if (gives[depth - 1] != 0) {
+        pop(gives[depth - 1]);
+      }
+      sound = sound && height == floor[depth - 1];
     }
 
     private void closeBlock() {
@@ -1290,6 +1308,10 @@ public final class FoldForge {
     private static final int PLACES_MOST = 100;
     private static final int NESTED_MOST = 64;
     private static final int TICKS_MOST = 1000000;
+    // of an i32, without sign
+    private static final long LOW = 4294967295L;
+    private static final int LEAST_32 = 1 << 31;
+    private static final long LEAST_64 = 1L << 63;
     // each value was put by a step, but for the locals of 64 CALLS
     private static final int STACK_MOST = 24000;
     private ModuleRows rows = null;
@@ -1313,23 +1335,23 @@ public final class FoldForge {
 
     /** False, and nothing is changed, where an ELEMENT goes beyond the TABLE. */
     private boolean make(ModuleRows module) {
-      ElementRows elements = module.elements;
       int room = module.tables > 0 ? (int) module.tableLimits[0] : 0;
-      for (int e = 0; e < elements.size; e++) {
-        if ((elements.offsets[e] & 0xFFFFFFFFL) + elements.lengths[e] > room) {
+      for (int e = 0; e < module.elements; e++) {
+        if ((module.elementOffsets[e] & LOW) + module.elementRows[3 * e + 2] > room) {
           return false;
         }
       }
       rows = module;
       code = module.codes;
       System.arraycopy(module.globalValues, 0, globals, 0, module.globals);
+      // what is beyond the pages is 0 at any time: a page that comes is so, too
       Arrays.fill(words, 0, pages * PAGE / 8, 0L);
       pages = module.memories > 0 ? (int) module.memoryLimits[0] : 0;
       places = room;
       Arrays.fill(placed, -1);
-      for (int e = 0; e < elements.size; e++) {
-        System.arraycopy(elements.functions, elements.starts[e], placed, (int) elements.offsets[e],
-            elements.lengths[e]);
+      for (int e = 0; e < module.elements; e++) {
+        System.arraycopy(module.elementFunctions, module.elementRows[3 * e + 1], placed,
+            (int) module.elementOffsets[e], module.elementRows[3 * e + 2]);
       }
       return true;
     }
@@ -1484,7 +1506,7 @@ public final class FoldForge {
           }
           break;
         case 14:
-          long chosen = pop() & 0xFFFFFFFFL;
+          long chosen = pop() & LOW;
           branch(first + (int) Math.min(chosen, code.second[here]));
           break;
         case 15:
@@ -1512,7 +1534,7 @@ public final class FoldForge {
     }
 
     private void callIndirect(int type) {
-      long i = pop() & 0xFFFFFFFFL;
+      long i = pop() & LOW;
       if (i >= places) {
         trap = 5;
         return;
@@ -1538,26 +1560,35 @@ public final class FoldForge {
           long one = pop();
           push(chosen != 0 ? one : other);
           break;
-        case 32:
-          push(stack[base + number]);
-          break;
-        case 33:
-          stack[base + number] = pop();
-          break;
-        case 34:
-          stack[base + number] = stack[height - 1];
-          break;
         case 35:
           push(globals[number]);
           break;
-        default:
+        case 36:
           globals[number] = pop();
+          break;
+        default:
+          local(op, base + number);
           break;
       }
     }
 
+    private void local(int op, int slot) {
+      if (slot < 0 || slot >= height) {
+        return;
+      }
+      if (op == 32) {
+        push(stack[slot]);
+        return;
+      }
+      long value = pop();
+      stack[slot] = value;
+      if (op == 34) {
+        push(value);
+      }
+    }
+
     private void grow() {
-      long more = pop() & 0xFFFFFFFFL;
+      long more = pop() & LOW;
       long most = rows.memoryLimits[1] < 0 ? PAGES_MOST : Math.min(rows.memoryLimits[1], PAGES_MOST);
       if (pages + more > most) {
         push(-1);
@@ -1569,7 +1600,7 @@ public final class FoldForge {
 
     /** The address of so many bytes, or -1 and a TRAP. */
     private int address(long index, long offset, int width) {
-      long from = (index & 0xFFFFFFFFL) + offset;
+      long from = (index & LOW) + offset;
       if (from + width > bytes()) {
         trap = 4;
         return -1;
@@ -1608,7 +1639,7 @@ public final class FoldForge {
       } else if (op == 172) {
         push(pop());
       } else if (op == 173) {
-        push(pop() & 0xFFFFFFFFL);
+        push(pop() & LOW);
       } else if (op == 69 || op == 80) {
         push(pop() == 0 ? 1 : 0);
       } else if (op <= 90) {
@@ -1629,7 +1660,7 @@ public final class FoldForge {
     }
 
     private static boolean below(long a, long b) {
-      return a + Long.MIN_VALUE < b + Long.MIN_VALUE;
+      return a + LEAST_64 < b + LEAST_64;
     }
 
     private static boolean compare(int kind, long a, long b) {
@@ -1703,12 +1734,12 @@ public final class FoldForge {
         trap = 2;
         return 0;
       }
-      if (kind == 6 && a == Integer.MIN_VALUE && b == -1) {
+      if (kind == 6 && a == LEAST_32 && b == -1) {
         trap = 3;
         return 0;
       }
-      long low = a & 0xFFFFFFFFL;
-      long by = b & 0xFFFFFFFFL;
+      long low = a & LOW;
+      long by = b & LOW;
       switch (kind) {
         case 6:
           return a / b;
@@ -1736,7 +1767,7 @@ public final class FoldForge {
         trap = 2;
         return 0;
       }
-      if (kind == 6 && a == Long.MIN_VALUE && b == -1) {
+      if (kind == 6 && a == LEAST_64 && b == -1) {
         trap = 3;
         return 0;
       }
@@ -1813,7 +1844,8 @@ public final class FoldForge {
   private static final class Program {
     private static final int DEFINITIONS_MOST = 20;
     private static final int ARGUMENTS_MOST = 4;
-    private static final int CODE_MOST = 8000;
+    // an ATOM adds less than six, with its share of what is around it
+    private static final int CODE_MOST = 3000;
     private static final int NAMES_MOST = DEFINITIONS_MOST * ARGUMENTS_MOST;
     private static final int INT = 1;
     private static final int LIST = 2;
@@ -1905,6 +1937,7 @@ public final class FoldForge {
     private static final String KEYWORDS = "fun  let  in   if   then else matchwith nil  cons do   int  list act  ";
     private static final int KEYWORD_ROOM = 5;
     private static final int WORD_MOST = 10;
+    private static final int NUMBER_MOST = 2147483647;
     private static final int OPEN_MOST = 30;
     private static final int ATOMS_MOST = 400;
     private static final String SIGNS = "(),:;=+-*/%<&|";
@@ -2030,10 +2063,10 @@ public final class FoldForge {
       value = 0;
       kind = NUMBER;
       while (next < end && isDigit(byteAt(next))) {
-        value = Math.min(value * 10 + byteAt(next) - '0', 1L + Integer.MAX_VALUE);
+        value = Math.min(value * 10 + byteAt(next) - '0', 1L + NUMBER_MOST);
         next++;
       }
-      if (value > Integer.MAX_VALUE) {
+      if (value > NUMBER_MOST) {
         kind = BAD;
       }
     }
@@ -2206,7 +2239,7 @@ public final class FoldForge {
     private void sum(int open) {
       int where = at;
       product(open);
-      while (fine() && (kind == '+' || kind == '-')) {
+      for (int k = 0; k < ATOMS_MOST && fine() && (kind == '+' || kind == '-'); k++) {
         int operator = kind;
         program.add(Program.WANT, Program.INT, where, 0);
         advance();
@@ -2220,7 +2253,7 @@ public final class FoldForge {
     private void product(int open) {
       int where = at;
       atom(open);
-      while (fine() && (kind == '*' || kind == '/' || kind == '%')) {
+      for (int k = 0; k < ATOMS_MOST && fine() && (kind == '*' || kind == '/' || kind == '%'); k++) {
         int operator = kind;
         program.add(Program.WANT, Program.INT, where, 0);
         advance();
