@@ -1105,7 +1105,9 @@ public final class FoldForge {
         sound = false;
       }
       depth--;
-      pushGiven(type);
+      if (type != 0) {
+        push(type);
+      }
     }
 
     private void branch(int i, int op) {
@@ -1344,8 +1346,8 @@ public final class FoldForge {
       rows = module;
       code = module.codes;
       System.arraycopy(module.globalValues, 0, globals, 0, module.globals);
-      // what is beyond the pages is 0 at any time: a page that comes is so, too
-      Arrays.fill(words, 0, pages * PAGE / 8, 0L);
+      // what is beyond the pages is 0 at any time: a page that comes later is so, too
+      Arrays.fill(words, 0L);
       pages = module.memories > 0 ? (int) module.memoryLimits[0] : 0;
       places = room;
       Arrays.fill(placed, -1);
@@ -1962,10 +1964,23 @@ public final class FoldForge {
     private static final int EQUAL = Program.EQUAL;
     private static final int ARROW = 129;
 
+    // each TOKEN has a byte at least; behind them stands the end
+    private static final int TOKENS_MOST = TAPE_ROOM + 1;
+    // what binds least comes first: < and ==, then + and -, then * / and %
+    private static final int COMPARISON = 0;
+    private static final int SUM = 1;
+    private static final int PRODUCT = 2;
+
     private Program program = null;
     private byte[] text = new byte[0];
     private int end;
     private int next;
+    private final int[] kinds = new int[TOKENS_MOST];
+    private final int[] ats = new int[TOKENS_MOST];
+    private final long[] values = new long[TOKENS_MOST];
+    private int tokens;
+    private int token;
+    // of the TOKEN that is looked at
     private int kind;
     private int at;
     private long value;
@@ -1978,9 +1993,10 @@ public final class FoldForge {
       program.clear();
       text = tape;
       end = Math.min(n, tape.length);
-      next = 0;
+      readTokens();
       atoms = 0;
       fault = -1;
+      token = -1;
       advance();
       for (int k = 0; k < Program.DEFINITIONS_MOST && fine() && (k == 0 || kind != END); k++) {
         definition(k);
@@ -2013,15 +2029,40 @@ public final class FoldForge {
       return c >= 'a' && c <= 'z';
     }
 
-    private void advance() {
-      while (next < end && (byteAt(next) == ' ' || byteAt(next) == 10)) {
+    /** Makes the row of TOKENS; what is none of them is BAD: it counts where it is come to. */
+    private void readTokens() {
+      tokens = 0;
+      next = 0;
+      skipBlanks();
+      for (int k = 0; k < TAPE_ROOM && next < end; k++) {
+        oneToken(byteAt(next));
+        keepToken();
+        skipBlanks();
+      }
+      at = end;
+      kind = END;
+      keepToken();
+    }
+
+    private void skipBlanks() {
+      while (next < end && (text[next] == ' ' || text[next] == 10)) {
         next++;
       }
+    }
+
+    private void keepToken() {
+      if (tokens < TOKENS_MOST) {
+        kinds[tokens] = kind;
+        ats[tokens] = at;
+        values[tokens] = value;
+        tokens++;
+      }
+    }
+
+    private void oneToken(int c) {
       at = next;
-      int c = byteAt(at);
-      if (at >= end) {
-        kind = END;
-      } else if (isLetter(c)) {
+      value = 0;
+      if (isLetter(c)) {
         word();
       } else if (isDigit(c)) {
         number();
@@ -2030,8 +2071,17 @@ public final class FoldForge {
       }
     }
 
+    /** Looks at the next TOKEN; behind the end there is none. */
+    private void advance() {
+      if (token + 1 < tokens) {
+        token++;
+        kind = kinds[token];
+        at = ats[token];
+        value = values[token];
+      }
+    }
+
     private void word() {
-      value = 0;
       while (next < end && (isLetter(byteAt(next)) || isDigit(byteAt(next)))) {
         int c = byteAt(next);
         // beyond ten signs it is no WORD: what it counts up to then is not used
@@ -2060,7 +2110,6 @@ public final class FoldForge {
     }
 
     private void number() {
-      value = 0;
       kind = NUMBER;
       while (next < end && isDigit(byteAt(next))) {
         value = Math.min(value * 10 + byteAt(next) - '0', 1L + NUMBER_MOST);
@@ -2156,7 +2205,7 @@ public final class FoldForge {
       } else if (kind == MATCH) {
         match(open);
       } else {
-        comparison(open);
+        parts(COMPARISON, open);
       }
     }
 
@@ -2222,45 +2271,46 @@ public final class FoldForge {
       expect(NAME);
     }
 
-    private void comparison(int open) {
-      int where = at;
-      sum(open);
-      if (fine() && (kind == '<' || kind == EQUAL)) {
-        int operator = kind;
-        program.add(Program.WANT, Program.INT, where, 0);
-        advance();
-        int right = at;
-        sum(open);
-        program.add(Program.WANT, Program.INT, right, 0);
-        program.add(operator, 0, 0, 0);
+    private static int levelOf(int sign) {
+      switch (sign) {
+        case '<':
+        case EQUAL:
+          return COMPARISON;
+        case '+':
+        case '-':
+          return SUM;
+        case '*':
+        case '/':
+        case '%':
+          return PRODUCT;
+        default:
+          return -1;
       }
     }
 
-    private void sum(int open) {
-      int where = at;
-      product(open);
-      for (int k = 0; k < ATOMS_MOST && fine() && (kind == '+' || kind == '-'); k++) {
-        int operator = kind;
-        program.add(Program.WANT, Program.INT, where, 0);
-        advance();
-        int right = at;
-        product(open);
-        program.add(Program.WANT, Program.INT, right, 0);
-        program.add(operator, 0, 0, 0);
-      }
-    }
-
-    private void product(int open) {
-      int where = at;
-      atom(open);
-      for (int k = 0; k < ATOMS_MOST && fine() && (kind == '*' || kind == '/' || kind == '%'); k++) {
-        int operator = kind;
-        program.add(Program.WANT, Program.INT, where, 0);
-        advance();
-        int right = at;
-        atom(open);
-        program.add(Program.WANT, Program.INT, right, 0);
-        program.add(operator, 0, 0, 0);
+    /** Parts with signs of a level between, taken from the left; of a COMPARISON two parts at most. */
+    private void parts(int level, int open) {
+      int most = level == COMPARISON ? 2 : ATOMS_MOST;
+      int operator = 0;
+      boolean more = true;
+      for (int k = 1; k <= most && more; k++) {
+        int where = at;
+        if (level == PRODUCT) {
+          atom(open);
+        } else {
+          parts(level + 1, open);
+        }
+        more = fine() && k < most && levelOf(kind) == level;
+        if (more || operator != 0) {
+          program.add(Program.WANT, Program.INT, where, 0);
+        }
+        if (operator != 0) {
+          program.add(operator, 0, 0, 0);
+        }
+        if (more) {
+          operator = kind;
+          advance();
+        }
       }
     }
 
