@@ -2290,7 +2290,8 @@ public final class FoldForge {
 
     /** Parts with signs of a level between, taken from the left; of a COMPARISON two parts at most. */
     private void parts(int level, int open) {
-      int most = level == COMPARISON ? 2 : ATOMS_MOST;
+      // one more than there may be: the ATOM that is too many is the fault, not the sign ahead of it
+      int most = level == COMPARISON ? 2 : ATOMS_MOST + 1;
       int operator = 0;
       boolean more = true;
       for (int k = 1; k <= most && more; k++) {

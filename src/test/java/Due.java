@@ -38,6 +38,13 @@ final class Due {
     return x.module(bytes.length);
   }
 
+  /** What a new object answers to a MODULE, and the place that it tells then. */
+  void module(String what, byte[] bytes, int answer, int place) {
+    FoldForge x = new FoldForge();
+    is(what + ": module", module(x, bytes), answer);
+    is(what + ": place", x.place(), place);
+  }
+
   static int program(FoldForge x, String text) {
     byte[] bytes = text.getBytes(StandardCharsets.ISO_8859_1);
     feed(x, bytes);
