@@ -12,6 +12,9 @@ public final class MadeTest {
     table(due);
     stays(due);
     anew(due);
+    noneOfBefore(due);
+    longName(due);
+    sixty(due);
     due.end("MadeTest");
   }
 
@@ -97,8 +100,8 @@ public final class MadeTest {
 
   private static void table(Due due) {
     FoldForge x = made(due, new Built().type(0).function(0).function(0).function(0).table(6)
-        .element(65, 1, 2, 1).element(65, 2, 0, 2).element(65, 6));
-    int[] wanted = {-1, 2, 0, 2, -1, -1};
+        .element(65, 1, 2, 1, 1).element(65, 2, 0, 2).element(65, 6).element(65, 5, 1));
+    int[] wanted = {-1, 2, 0, 2, -1, 1};
     for (int i = 0; i < 6; i++) {
       due.is("table(" + i + ")", x.table(i), wanted[i]);
     }
@@ -106,6 +109,10 @@ public final class MadeTest {
     due.is("table(-1)", x.table(-1), -2);
     due.is("table of the least", x.table(Integer.MIN_VALUE), -2);
     due.is("table of the greatest", x.table(Integer.MAX_VALUE), -2);
+    FoldForge most = made(due, new Built().type(0).function(0).table(100, 100).element(65, 99, 0));
+    due.is("table(98)", most.table(98), -1);
+    due.is("table(99)", most.table(99), 0);
+    due.is("table(100)", most.table(100), -2);
     due.is("of no TABLE", made(due, new Built()).table(0), -2);
     due.is("of an empty TABLE", made(due, new Built().table(0)).table(0), -2);
   }
@@ -186,5 +193,71 @@ public final class MadeTest {
     due.is("another", Due.module(x, new Built().memory(2).table(2).bytes()), 1);
     due.is("MEMORY", x.memory(65532), 0);
     due.is("TABLE", x.table(1), -1);
+  }
+
+  /** A MODULE without a MEMORY, a TABLE: none of those before it count. */
+  private static void noneOfBefore(Due due) {
+    FoldForge x = new FoldForge();
+    for (int round = 0; round < 3; round++) {
+      byte[] whole = new Built().type(0).function(0).memory(1, 1).table(3, 3).element(65, 1, 0)
+          .global(I32, 0, 65, 3).export("f", 0, 0).bytes();
+      due.is("module", Due.module(x, whole), 1);
+      due.is("memory", x.memory(0), 0);
+      due.is("table", x.table(1), 0);
+      for (int k = 0; k < 2; k++) {
+        due.is("empty module", Due.module(x, Due.header()), 1);
+        counts(due, x, 0, 0, -1, -1, 0, 0);
+        due.is("memory", x.memory(0), -1);
+        due.is("table", x.table(1), -2);
+        due.is("global", x.global(0), 0);
+        due.is("export", x.export(0, 0), -9);
+        due.is("run", x.run(0, 1), -1);
+      }
+    }
+  }
+
+  /** A name's number of two bytes, and one of five. */
+  private static void longName(Due due) {
+    StringBuilder name = new StringBuilder();
+    for (int k = 0; k < 300; k++) {
+      name.append((char) (k % 251));
+    }
+    FoldForge x = made(due, new Built().memory(0).export(name.toString(), 2, 0));
+    due.is("its bytes", x.export(0, 2), 300);
+    for (int k = 0; k < 300; k += 13) {
+      due.is("byte " + k, x.export(0, 3 + k), k % 251);
+    }
+    due.is("behind it", x.export(0, 303), -9);
+    byte[] five = Due.join(Due.header(), Due.bytes(5, 3, 1, 0, 0),
+        Due.section(7, Due.bytes(1, 0x82, 0x80, 0x80, 0x80, 0, 97, 98, 2, 0x80, 0)));
+    due.is("module", Due.module(x, five), 1);
+    due.is("its bytes", x.export(0, 2), 2);
+    due.is("the first", x.export(0, 3), 97);
+    due.is("the second", x.export(0, 4), 98);
+    due.is("behind it", x.export(0, 5), -9);
+  }
+
+  /** As many things of each kind as there may be. */
+  private static void sixty(Due due) {
+    Built built = new Built().table(60).memory(1);
+    for (int k = 0; k < 60; k++) {
+      built.type(k % 2 == 0 ? I32 : I64, k % 3 == 0 ? I64 : I32);
+      built.function(k, k % 2 == 0 ? 65 : 66, k);
+      built.global(I32, 1, 65, k);
+      built.export("e" + (char) ('0' + k), k % 2 == 0 ? 0 : 3, 59 - k);
+      built.element(65, 59 - k, k);
+    }
+    FoldForge x = made(due, built);
+    counts(due, x, 60, 60, 60, 1, 60, 60);
+    for (int k = 0; k < 60; k++) {
+      due.is("global " + k, x.global(k), k);
+      due.is("table " + k, x.table(k), 59 - k);
+    }
+    for (int k = 0; k < 60; k++) {
+      due.is("export " + k, x.export(k, 1), 59 - k);
+      due.is("its name", x.export(k, 4), '0' + k);
+      due.is("run", x.run(k, 1), k % 2 == 0 ? 0 : -1);
+    }
+    due.is("outcome", x.outcome(0), 1);
   }
 }

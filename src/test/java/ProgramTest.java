@@ -83,6 +83,23 @@ public final class ProgramTest {
       int at = blank ? 0 : longer ? 21 : "+-*/%<(".indexOf(b) >= 0 ? 23 : b == ';' ? 23 : 22;
       is(due, text, blank ? 1 : -1 - at);
     }
+    for (int b = 0; b < 256; b++) {
+      // bytes that are no part of any TOKEN, wherever they stand
+      if (b == ' ' || b == 10 || b >= '0' && b <= '9' || b >= 'a' && b <= 'z' || "(),:;=+-*/%<&|".indexOf(b) >= 0) {
+        continue;
+      }
+      String sign = "^" + (char) b;
+      if (b == '^') {
+        sign = "^^";
+      }
+      fault(due, sign + "fun f(a: int): int = a;");
+      fault(due, "fun " + sign + "(a: int): int = a;");
+      fault(due, "fun f(a: " + sign + "): int = a;");
+      fault(due, "fun f(a: int): int = " + sign + ";");
+      fault(due, "fun f(a: int): int = 1" + sign + "1;");
+      fault(due, "fun f(a: int): int = a;" + sign);
+      fault(due, "fun f(a: int): int = a; " + sign + " fun g(a: int): int = a;");
+    }
     fault(due, "fun f(a: int): int = a^\t;");
     fault(due, "fun f(a: int): int = a^\r\n;");
     is(due, "fun\nf\n(\na\n:\nint\n)\n:\nint\n=\na\n;\n", 1);
@@ -145,6 +162,12 @@ public final class ProgramTest {
     fault(due, "^f(a: int): int = 1;");
     fault(due, "fun f(a^): int = 1;");
     fault(due, "fun f(a: ^1): int = 1;");
+    fault(due, "fun f(a: ^): int = 1;");
+    fault(due, "fun f(a: ^, b: int): int = 1;");
+    fault(due, "fun f(a: ^fun): int = 1;");
+    fault(due, "fun f(a: ^do): int = 1;");
+    fault(due, "fun f(a: int): ^= 1;");
+    fault(due, "fun f(a: int): ^do = 1;");
     fault(due, "fun f(a: int) ^= 1;");
     fault(due, "fun f(a: int): int ^a;");
     fault(due, "fun f(a: int): int ^== a;");
@@ -214,6 +237,12 @@ public final class ProgramTest {
     fault(due, def + repeat("f(", 30) + "^a" + repeat(")", 30) + ";");
     is(due, def + repeat("if a then 1 else ", 29) + "1;", 1);
     fault(due, def + repeat("if a then 1 else ", 29) + "if ^a then 1 else 1;");
+    is(due, def + repeat("if a then ", 29) + "1" + repeat(" else 1", 29) + ";", 1);
+    fault(due, def + repeat("if a then ", 29) + "if ^1 then 1 else 1" + repeat(" else 1", 29) + ";");
+    is(due, def + repeat("if 1 then (", 14) + "(1)" + repeat(") else 1", 14) + ";", 1);
+    fault(due, def + repeat("if 1 then (", 14) + "((^1))" + repeat(") else 1", 14) + ";");
+    is(due, def + repeat("match nil with nil -> (", 14) + "(1)" + repeat(") | b, c -> 1", 14) + ";", 1);
+    fault(due, def + repeat("match nil with nil -> (", 14) + "((^1))" + repeat(") | b, c -> 1", 14) + ";");
     is(due, def + repeat("if ", 29) + "a" + repeat(" then 1 else 1", 29) + ";", 1);
     fault(due, def + repeat("if ", 30) + "^a" + repeat(" then 1 else 1", 30) + ";");
     is(due, def + repeat("let b = ", 29) + "1" + repeat(" in 1", 29) + ";", 1);
@@ -257,6 +286,9 @@ public final class ProgramTest {
 
   private static void names(Due due) {
     unfit(due, "int", "^b");
+    fault(due, "fun f(p: int): int = p; fun g(q: int): int = ^p;");
+    fault(due, "fun f(p: int): int = let r = p in r; fun g(q: int): int = ^r;");
+    is(due, "fun f(p: list): list = p; fun g(q: int, p: int): int = p + q;", 2);
     unfit(due, "int", "^f");
     unfit(due, "int", "^main + 1");
     unfit(due, "int", "let y = ^y in y");

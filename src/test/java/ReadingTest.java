@@ -26,6 +26,7 @@ public final class ReadingTest {
     unsignedNumbers(due);
     signedNumbers(due);
     places(due);
+    greatest(due);
     due.end("ReadingTest");
   }
 
@@ -173,6 +174,11 @@ public final class ReadingTest {
     due.module("no 11", only(6, 1, 127, 0, 65, 0, 12), MALFORMED, CONTENT + 5);
     due.module("end for 11", only(6, 1, 127, 0, 65, 0), MALFORMED, CONTENT + 5);
     due.module("a GLOBAL told by one", only(6, 1, 127, 0, 35, 0, 11), -3, -1);
+    due.module("a GLOBAL's number is u32", only(6, 1, 127, 0, 35, 0x80, 0x80, 0x80, 0x80, 0x80, 0, 11), MALFORMED,
+        CONTENT + 4);
+    due.module("a GLOBAL's number with 15", only(6, 1, 127, 0, 35, 0xFF, 0xFF, 0xFF, 0xFF, 15, 11), -3, -1);
+    due.module("the second's 2", only(6, 2, 127, 1, 65, 0, 11, 126, 2, 66, 0, 11), MALFORMED, CONTENT + 7);
+    due.module("the second's 1", only(6, 2, 127, 0, 65, 0, 11, 126, 1, 66, 0, 11), 1, -1);
     due.module("s32 too long", only(6, 1, 127, 0, 65, 0x80, 0x80, 0x80, 0x80, 8, 11), MALFORMED, CONTENT + 4);
     due.module("s64 of ten bytes",
         only(6, 1, 126, 0, 66, 0x80, 0x80, 0x80, 0x80, 0x80, 0x80, 0x80, 0x80, 0x80, 0x7F, 11), 1, -1);
@@ -307,6 +313,10 @@ public final class ReadingTest {
       codeFault(due, "BLOCK TYPE " + type, Due.bytes(0, 2, type, 11, 11), answer, place);
     }
     codeFault(due, "no BLOCK TYPE", Due.bytes(0, 3), MALFORMED, 2);
+    due.module("64 stands behind the CODE",
+        after(1, 4, 1, 96, 0, 0, 3, 3, 2, 0, 0, 10, 5, 2, 2, 0, 2, 64), MALFORMED, 25);
+    due.module("11 stands behind the CODE",
+        after(1, 4, 1, 96, 0, 0, 3, 3, 2, 0, 0, 10, 5, 2, 2, 0, 1, 11), MALFORMED, 25);
   }
 
   private static void operands(Due due) {
@@ -375,5 +385,33 @@ public final class ReadingTest {
     Due.feed(x, after(1, 1, 0, 12));
     due.is("the first bytes alone", x.module(11), 1);
     due.is("the tape is empty then", x.module(1), 0);
+  }
+
+  /** The most INSTRUCTIONS, values and labels for which there is room on the tape. */
+  private static void greatest(Due due) {
+    byte[] nops = new byte[3960];
+    Arrays.fill(nops, 1, 3959, (byte) 1);
+    nops[3959] = 11;
+    codeFault(due, "many INSTRUCTIONS", nops, 1, -1);
+    byte[] values = Due.bytes(0);
+    for (int k = 0; k < 1970; k++) {
+      values = Due.join(values, Due.bytes(65, 0));
+    }
+    codeFault(due, "many values", Due.join(values, Due.bytes(11)), -3, -1);
+    codeFault(due, "many values, then unreachable", Due.join(values, Due.bytes(0, 11)), 1, -1);
+    byte[] table = new byte[65];
+    table[0] = 65;
+    table[2] = 14;
+    table[3] = 60;
+    byte[] all = Due.bytes(0);
+    for (int k = 0; k < 60; k++) {
+      all = Due.join(all, table);
+    }
+    codeFault(due, "many labels", Due.join(all, Due.bytes(11)), 1, -1);
+    byte[] shortOnes = Due.bytes(0);
+    for (int k = 0; k < 1970; k++) {
+      shortOnes = Due.join(shortOnes, Due.bytes(12, 0));
+    }
+    codeFault(due, "many br", Due.join(shortOnes, Due.bytes(11)), 1, -1);
   }
 }

@@ -247,6 +247,15 @@ public final class RunTest {
     FoldForge unlike = made(due, new Built().type(I32, I32, I32).type(I32, I32, I64)
         .function(0, 65, 0, 65, 0, 65, 0, 17, 0, 0).function(1, 65, 0).table(1).element(65, 0, 1).export("f", 0, 0));
     trap(due, unlike, 7, 4);
+    FoldForge first = made(due, new Built().type(I32, I32, I32).type(I32, I64, I32)
+        .function(0, 65, 0, 65, 0, 65, 0, 17, 0, 0).function(1, 65, 0).table(1).element(65, 0, 1).export("f", 0, 0));
+    trap(due, first, 7, 4);
+    FoldForge fewer = made(due, new Built().type(0, I32).type(0)
+        .function(1, 65, 0, 65, 0, 17, 0, 0).function(1, 1).table(1).element(65, 0, 1).export("f", 0, 0));
+    trap(due, fewer, 7, 3);
+    FoldForge gives = made(due, new Built().type(0).type(I32)
+        .function(0, 65, 0, 17, 0, 0).function(1, 65, 0).table(1).element(65, 0, 1).export("f", 0, 0));
+    trap(due, gives, 7, 2);
     FoldForge empty = made(due, new Built().type(0).function(0, 65, 0, 17, 0, 0).table(0).export("f", 0, 0));
     trap(due, empty, 5, 2);
   }

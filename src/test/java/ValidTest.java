@@ -295,6 +295,8 @@ public final class ValidTest {
     unfit(due, I32, 65, 0, 65, 0, 65, 0, 17, 2, 0);
     is(due, "call_indirect without a TABLE", new Built().type(0).function(0, 65, 0, 17, 0, 0), INVALID);
     is(due, "call_indirect with a TABLE", new Built().type(0).function(0, 65, 0, 17, 0, 0).table(0), 1);
+    is(due, "FUNCTION 1 of one", new Built().type(0).function(0, 16, 1), INVALID);
+    is(due, "TYPE 1 of one", new Built().type(0).function(0, 65, 0, 17, 1, 0).table(0), INVALID);
     is(due, "a later FUNCTION", new Built().type(0).function(0, 16, 1).function(0), 1);
   }
 
