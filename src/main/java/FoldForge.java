@@ -2664,7 +2664,8 @@ public final class FoldForge {
     private static final int NESTED_MOST = 60;
     private static final int CALLS_MOST = 5000;
     private static final int CONSES_MOST = 500;
-    private static final int STACK_MOST = 20000;
+    // of each of 60 CALLS its 4 ARGUMENTS, and 6 for each of 30 OPEN E: three ahead of signs, three of a CALL
+    private static final int STACK_MOST = 12000;
     // 5000 CALLS, none of which does one thing of the CODE twice
     private static final int TICKS_MOST = 50000000;
     private Program program = null;

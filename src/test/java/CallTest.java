@@ -277,6 +277,14 @@ public final class CallTest {
     }
     gives(due, wide, 58, 0, wanted);
     spends(due, wide, "wide", 0, 59 + 3 * 58, 59);
+    StringBuilder widest = new StringBuilder("if n < 1 then 1 else main(n - 1, n, n, n)");
+    for (int k = 0; k < 27; k++) {
+      widest.insert(0, "0 < 1 + 1 * f(n, n, n, ").append(')');
+    }
+    FoldForge most = of(due, "fun main(n: int, a: int, b: int, c: int): int = " + widest + ";"
+        + "fun f(a: int, b: int, c: int, d: int): int = d - 1;", 2);
+    gives(due, most, 58, 0, 1);
+    spends(due, most, "widest", 0, 59 * 28, 60);
   }
 
   // many(n) takes 290 n + 1 CALLS, and comes up to 33 + n in one another
