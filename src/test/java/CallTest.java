@@ -136,6 +136,9 @@ public final class CallTest {
     gives(due, e(due, "let inc = 3 in inc(inc)"), 0, 0, 4);
     gives(due, e(due, "1 + (match cons(a, nil) with nil -> 0 | h, t -> let c = h in c + h) + b"), 4, 5, 14);
     gives(due, e(due, "inc(let c = a in c) + b"), 4, 5, 10);
+    gives(due, e(due, "(let c = b in c) * 100 + (let d = a in d)"), 4, 5, 504);
+    gives(due, e(due, "(let c = b in c) + (match cons(7, nil) with nil -> 0 | h, t -> h * 10) + (let d = a in d * 100)"),
+        4, 5, 475);
   }
 
   private static void choices(Due due) {

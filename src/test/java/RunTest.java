@@ -130,6 +130,9 @@ public final class RunTest {
     run(due, code(due, 65, 40, 2, I32, 65, 1, 65, 2, 65, 3, 12, 0, 11, 106), 0, 0, 43, 7);
     run(due, code(due, 65, 40, 2, 64, 65, 1, 65, 2, 12, 0, 11), 0, 0, 40, 5);
     run(due, code(due, 65, 40, 2, I32, 65, 1, 65, 2, 65, 3, 12, 1, 11, 106), 0, 0, 3, 6);
+    // each label has its own: the first leads to a block above nothing, the last to one above two values
+    run(due, code(due, 2, 64, 65, 1, 13, 0, 11, 65, 40, 2, 64, 65, 9, 65, 1, 13, 0, 26, 11, 65, 50, 2, I32, 65, 7, 65, 8,
+        12, 0, 11, 106, 106), 0, 0, 98, 15);
     FoldForge perhaps = code(due, 2, I32, 65, 7, 32, 0, 13, 0, 26, 65, 8, 11);
     run(due, perhaps, 1, 0, 7, 4);
     run(due, perhaps, 0, 0, 8, 6);
@@ -194,6 +197,11 @@ public final class RunTest {
     FoldForge nothing = made(due, new Built().type(I32, I32, I32).type(0, I32).function(0, 65, 5, 32, 0, 16, 1)
         .function(1, 65, 4, 33, 0).export("f", 0, 0));
     run(due, nothing, 1, 0, 5, 5);
+    // a br behind a CALL: what is beneath its block stays, with LOCALS of its own
+    FoldForge behind = made(due, new Built().type(I32, I32, I32).function(0, Due.bytes(1, 5, I32), Due.bytes(65, 40, 32,
+        0, 32, 1, 16, 1, 2, I32, 65, 1, 65, 2, 65, 3, 12, 0, 11, 106, 106)).function(0, 32, 0, 32, 1, 107)
+        .export("f", 0, 0));
+    run(due, behind, 9, 4, 40 + 5 + 3, 11 + 3);
     // fib, by CALLS of itself
     FoldForge fib = made(due, new Built().type(I32, I32).function(0, 32, 0, 65, 2, 72, 4, I32, 32, 0, 5, 32, 0, 65, 1,
         107, 16, 0, 32, 0, 65, 2, 107, 16, 0, 106, 11).export("f", 0, 0));

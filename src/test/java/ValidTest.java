@@ -102,6 +102,10 @@ public final class ValidTest {
           .global(I32, 0, 65, 0).export("a", kind, -1 >>> 1), INVALID);
     }
     is(due, "names alike", new Built().memory(0).table(0).export("ab", 1, 0).export("ab", 2, 0), INVALID);
+    is(due, "the last two alike", new Built().memory(0).export("b", 2, 0).export("ab", 2, 0).export("ab", 2, 0),
+        INVALID);
+    is(due, "one of four like another", new Built().memory(0).export("a", 2, 0).export("b", 2, 0).export("c", 2, 0)
+        .export("b", 2, 0), INVALID);
     is(due, "empty names alike", new Built().memory(0).export("", 2, 0).export("", 2, 0), INVALID);
     is(due, "names unlike", new Built().memory(0).export("ab", 2, 0).export("ac", 2, 0).export("a", 2, 0), 1);
     is(due, "the last like the first", new Built().memory(0).export("ab", 2, 0).export("ac", 2, 0)
@@ -113,6 +117,7 @@ public final class ValidTest {
     is(due, "an i64", new Built().table(3).element(66, 0), INVALID);
     is(due, "a GLOBAL", new Built().table(3).global(I32, 0, 65, 0).element(35, 0), INVALID);
     is(due, "no such FUNCTION", new Built().type(0).function(0).table(3).element(65, 0, 0, 1), INVALID);
+    is(due, "no such FUNCTION, first of all", new Built().type(0).function(0).table(3).element(65, 0, 1, 0), INVALID);
     is(due, "the second's FUNCTION", new Built().type(0).function(0).table(3).element(65, 0, 0)
         .element(65, 0, 7), INVALID);
     is(due, "there", new Built().type(0).function(0).table(3).element(65, 1, 0, 0), 1);
