@@ -1384,7 +1384,7 @@ public final class FoldForge {
       }
       enter(function, 0);
       boolean spent = false;
-      for (int tick = 0; tick < TICKS_MOST && nested > 0 && trap == 0 && !spent; tick++) {
+      for (int tick = 0; tick < TICKS_MOST && going() && !spent; tick++) {
         int op = code.op[next];
         if (op == 5 || op == 11) {
           mark(op);
@@ -1419,6 +1419,10 @@ public final class FoldForge {
       }
       height--;
       return stack[height];
+    }
+
+    private boolean going() {
+      return nested > 0 && trap == 0 && next >= 0 && next < code.instructions;
     }
 
     private void enter(int function, int back) {
@@ -2697,7 +2701,7 @@ public final class FoldForge {
         push((int) arguments[k]);
       }
       enter(f, 0);
-      for (int tick = 0; tick < TICKS_MOST && nested > 0 && error == 0; tick++) {
+      for (int tick = 0; tick < TICKS_MOST && nested > 0 && error == 0 && next < program.length; tick++) {
         next++;
         step(program.op[next - 1], program.value[next - 1]);
       }
@@ -2717,6 +2721,10 @@ public final class FoldForge {
       }
       height--;
       return stack[height];
+    }
+
+    private int standing(int slot) {
+      return slot >= 0 && slot < height ? stack[slot] : 0;
     }
 
     private void enter(int f, int back) {
@@ -2757,7 +2765,7 @@ public final class FoldForge {
           push((int) value);
           break;
         case Program.NAME:
-          push(stack[base + (int) value]);
+          push(standing(base + (int) value));
           break;
         case Program.CALL:
           enter((int) value, next);
