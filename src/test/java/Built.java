@@ -25,7 +25,7 @@ final class Built {
 
   /** A FUNCTION of a TYPE, with a VEC of LOCALS, and its INSTRUCTIONS but for the closing 11. */
   Built function(int type, byte[] locals, byte[] instructions) {
-    functions.add(Due.unsigned(type));
+    functions.add(Due.unsigned(type & 0xFFFFFFFFL));
     codes.add(Due.code(locals, instructions));
     return this;
   }
@@ -65,7 +65,7 @@ final class Built {
   Built element(int instruction, long offset, int... numbers) {
     byte[] vec = Due.unsigned(numbers.length);
     for (int number : numbers) {
-      vec = Due.join(vec, Due.unsigned(number));
+      vec = Due.join(vec, Due.unsigned(number & 0xFFFFFFFFL));
     }
     elements.add(Due.join(Due.bytes(0, instruction), Due.signed(offset), Due.bytes(11), vec));
     return this;

@@ -5,17 +5,38 @@ import java.nio.charset.StandardCharsets;
 final class Due {
   private int wrong = 0;
   private int asked = 0;
+  private String sentence = "";
+  private int sentences = 0;
+  private int askedBefore = 0;
 
   void is(String call, long got, long want) {
     asked++;
     if (got != want) {
       wrong++;
-      System.out.println(call + " answered " + got + ", due is " + want);
+      System.out.println(sentence + call + " answered " + got + ", due is " + want);
     }
   }
 
+  /** What is asked from here on tests this sentence of the document, given in its own words. */
+  void sentence(String words) {
+    endSentence();
+    sentence = "[" + words + "] ";
+    sentences++;
+  }
+
+  /** A sentence of which nothing was asked is not tested. */
+  private void endSentence() {
+    if (sentences > 0 && asked == askedBefore) {
+      wrong++;
+      System.out.println(sentence + "has no test");
+    }
+    askedBefore = asked;
+  }
+
   void end(String name) {
-    System.out.println(name + ": " + asked + " answers, " + wrong + " not as due");
+    endSentence();
+    String told = sentences > 0 ? sentences + " sentences, " : "";
+    System.out.println(name + ": " + told + asked + " answers, " + wrong + " not as due");
     if (wrong != 0) {
       System.exit(1);
     }
@@ -110,7 +131,7 @@ final class Due {
 
   static byte[] export(String name, int kind, int number) {
     byte[] signs = name.getBytes(StandardCharsets.ISO_8859_1);
-    return join(unsigned(signs.length), signs, bytes(kind), unsigned(number));
+    return join(unsigned(signs.length), signs, bytes(kind), unsigned(number & 0xFFFFFFFFL));
   }
 
   /** A CODE: its LOCALS (a VEC, written out), then its INSTRUCTIONS with the closing 11. */

@@ -4,8 +4,7 @@ import java.util.Arrays;
 public final class ReadingTest {
   private static final int MALFORMED = -1;
   private static final int REFUSED = -2;
-  // the first byte of what the first SECTION has, if its size is below 128
-  private static final int CONTENT = 10;
+  private static final int CONTENT = Raw.CONTENT;
 
   public static void main(String[] args) {
     Due due = Due.begin();
@@ -31,31 +30,19 @@ public final class ReadingTest {
   }
 
   private static byte[] after(int... numbers) {
-    return Due.join(Due.header(), Due.bytes(numbers));
+    return Raw.after(numbers);
   }
 
   private static byte[] only(int id, int... content) {
-    return Due.join(Due.header(), Due.section(id, Due.bytes(content)));
+    return Raw.only(id, content);
   }
 
-  /** A MODULE of one FUNCTION that takes and gives nothing; its CODE begins at 23 with its LOCALS. */
   private static byte[] code(int... content) {
-    return codeOf(Due.bytes(content));
-  }
-
-  private static byte[] codeOf(byte[] content) {
-    byte[] sized = Due.join(Due.unsigned(content.length), content);
-    return Due.join(Due.header(), Due.bytes(1, 4, 1, 96, 0, 0, 3, 2, 1, 0),
-        Due.section(10, Due.join(Due.bytes(1), sized)));
-  }
-
-  private static int codeAt(byte[] module, int contentLength) {
-    return module.length - contentLength;
+    return Raw.code(content);
   }
 
   private static void codeFault(Due due, String what, byte[] content, int answer, int place) {
-    byte[] module = codeOf(content);
-    due.module(what, module, answer, place < 0 ? -1 : codeAt(module, content.length) + place);
+    Raw.codeIs(due, what, content, answer, place);
   }
 
   private static void header(Due due) {
