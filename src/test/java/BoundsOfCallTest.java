@@ -7,6 +7,7 @@ public final class BoundsOfCallTest {
     Due due = Due.begin();
     whatIsCalled(due);
     lowBits(due);
+    answers(due);
     leftToRight(due);
     chosenAlone(due);
     wraps(due);
@@ -121,6 +122,18 @@ public final class BoundsOfCallTest {
       due.is("the first of " + v, x.outcome(0), (int) v);
       due.is("call", x.call(1), 0);
       due.is("the fourth of " + (v + 1), x.outcome(0), (int) (v + 1));
+    }
+  }
+
+  private static void answers(Due due) {
+    due.sentence("0 it ended, 2 a NAMED ERROR.");
+    FoldForge x = e(due, "10 / a");
+    int[] all = {1, 0, -1, 0};
+    for (int a : all) {
+      x.argument(0, a);
+      due.is("call with " + a, x.call(0), a == 0 ? 2 : 0);
+      due.is("call with " + a + ": which", x.outcome(2), a == 0 ? 1 : 0);
+      due.is("call with " + a + ": gives", x.outcome(0), a == 0 ? 0 : 10 / a);
     }
   }
 

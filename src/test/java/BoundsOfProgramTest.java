@@ -104,6 +104,7 @@ public final class BoundsOfProgramTest {
     e(due, "int", "let abcdefghij = 1 in ^bbcdefghij");
     e(due, "int", "let c0 = 1 in ^c");
     e(due, "int", "let b = 1 in ^b0");
+    unlikeWords(due);
     for (String other : new String[] {"A", "Z", "_b", "0", "9", "`", "{"}) {
       fault(due, "fun ^" + other + "(a: int): int = 1;");
     }
@@ -114,6 +115,36 @@ public final class BoundsOfProgramTest {
     }
     for (char c = '0'; c <= '9'; c++) {
       is(due, "fun a" + c + "(b" + c + c + ": int): int = b" + c + c + ";", 1);
+    }
+  }
+
+  /** WORDS that differ in one or two signs are other WORDS. */
+  private static void unlikeWords(Due due) {
+    String signs = "abcdefghijklmnopqrstuvwxyz0123456789";
+    for (int i = 0; i < 36; i++) {
+      for (int j = 0; j < 36; j++) {
+        String one = "z" + signs.charAt(i);
+        String other = "z" + signs.charAt(j);
+        is(due, DEF + "let " + one + " = 1 in " + other + ";", i == j ? 1 : -1 - DEF.length() - 14);
+      }
+    }
+    // each of ten signs counts, at any place, next to any other
+    for (int place = 0; place < 10; place++) {
+      for (int i = 0; i < 36; i++) {
+        for (int j = 1; j < 36; j += 5) {
+          StringBuilder other = new StringBuilder("abcdefghij");
+          if (place == 0 && i >= 26) {
+            continue;
+          }
+          other.setCharAt(place, signs.charAt(i));
+          if (place < 9) {
+            other.setCharAt(place + 1, signs.charAt(j));
+          }
+          boolean same = other.toString().equals("abcdefghij");
+          String text = DEF + "let abcdefghij = 1 in ";
+          is(due, text + other + ";", same ? 1 : -1 - text.length());
+        }
+      }
     }
   }
 

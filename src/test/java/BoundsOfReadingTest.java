@@ -17,6 +17,7 @@ public final class BoundsOfReadingTest {
     vec(due);
     gives(due);
     valueTypes(due);
+    blockTypes(due);
     tables(due);
     limits(due);
     globals(due);
@@ -186,12 +187,22 @@ public final class BoundsOfReadingTest {
       due.module("a GLOBAL " + type, Raw.only(6, 1, type, 0, told, 0, 11), answer, is ? -1 : CONTENT + 1);
       Raw.codeIs(due, "a LOCAL " + type, code(1, 1, type, 11), answer, is ? -1 : 2);
       Raw.codeIs(due, "no LOCALS " + type, code(1, 0, type, 11), answer, is ? -1 : 2);
+    }
+  }
+
+  private static void blockTypes(Due due) {
+    due.sentence("a BLOCK TYPE (64: none; or a VALUE TYPE)");
+    for (int type = 0; type < 256; type++) {
+      boolean may = type == 64 || type == 126 || type == 127;
+      int answer = may ? 1 : type == 124 || type == 125 ? REFUSED : MALFORMED;
       for (int op = 2; op <= 4; op++) {
         byte[] inner = op == 4 ? code(0, 5, 0) : code(0);
         byte[] block = Due.join(code(0, 0, op, type), inner, code(11, 0, 11));
-        boolean may = is || type == 64;
-        Raw.codeIs(due, op + " of " + type, block, may ? 1 : answer, may ? -1 : 3);
+        Raw.codeIs(due, op + " of " + type, block, answer, may ? -1 : 3);
       }
+    }
+    for (int op = 2; op <= 4; op++) {
+      Raw.codeIs(due, op + " of none there", code(0, 0, op), MALFORMED, 3);
     }
   }
 
@@ -466,6 +477,15 @@ public final class BoundsOfReadingTest {
     Raw.codeIs(due, "a CODE", code(0, 1, 1), MALFORMED, 3);
     due.module("a CODE, with another behind", Due.join(Due.header(), Due.bytes(1, 4, 1, 96, 0, 0, 3, 3, 2, 0, 0, 10, 7, 2, 2,
         0, 1, 2, 0, 11)), MALFORMED, 25);
+    // at the end of a TEXT of 4000 bytes, in each of its parts
+    int[][] lasts = {{2}, {0, 4}, {65}, {66, 0x80}, {12}, {14, 1, 0}, {17, 0}, {40, 0}, {63}, {1}, {0}};
+    for (int[] last : lasts) {
+      byte[] most = Due.join(Due.bytes(0), Raw.times(4000 - 25 - last.length, 1), Due.bytes(last));
+      byte[] module = Raw.code(most);
+      due.is("a TEXT of 4000 bytes", module.length, 4000);
+      boolean cut = last[last.length - 1] == 0x80;
+      due.module("it ends with " + last[0], module, MALFORMED, cut ? 3999 : 4000);
+    }
     due.module("the TEXT", Raw.after(1), MALFORMED, 9);
     due.module("the TEXT, behind a SECTION", Raw.after(1, 1, 0, 3), MALFORMED, 12);
   }

@@ -303,7 +303,6 @@ public final class BoundsOfRunTest {
           System.arraycopy(type, 1, takes, 0, takes.length);
           built.type(type[0], takes);
         }
-        // behind unreachable the ARGUMENTS need not be told: a block that is left at once is ahead of it
         byte[] call = Due.bytes();
         for (int k = 1; k < types[b].length; k++) {
           call = Due.join(call, types[b][k] == I32 ? Due.bytes(65, 0) : Due.bytes(66, 0));
@@ -320,6 +319,25 @@ public final class BoundsOfRunTest {
         }
       }
     }
+    likeTypes(due);
+  }
+
+  /** TYPES that are alike, told in other bytes. */
+  private static void likeTypes(Due due) {
+    byte[] types = Due.bytes(4, 96, 1, 127, 1, 127, 96, 0x81, 0, 127, 0x81, 0x80, 0, 127, 96, 0x81, 0x80, 0x80, 0x80, 0, 127,
+        1, 127, 96, 1, 127, 0x80, 0);
+    byte[] call = Due.code(Due.bytes(0), Due.bytes(65, 7, 32, 0, 17, 0, 0));
+    byte[] gives = Due.code(Due.bytes(0), Due.bytes(32, 0));
+    byte[] module = Due.join(Due.header(), Due.section(1, types), Due.section(3, Due.bytes(5, 0, 0, 1, 2, 3)),
+        Due.bytes(4, 4, 1, 112, 0, 4), Due.section(7, Due.vec(Due.export("f", 0, 0))),
+        Due.section(9, Due.bytes(1, 0, 65, 0, 11, 4, 1, 2, 3, 4)),
+        Due.section(10, Due.join(Due.bytes(5), call, gives, gives, gives, Due.code(1))));
+    FoldForge x = new FoldForge();
+    due.is("module", Due.module(x, module), 1);
+    for (int i = 0; i < 3; i++) {
+      gives(due, x, i, 0, 7, 4);
+    }
+    traps(due, x, 3, 0, 7, 3);
   }
 
   private static void calls64(Due due) {
@@ -359,6 +377,12 @@ public final class BoundsOfRunTest {
       due.is(steps + " STEPS: GLOBAL", x.global(0), steps >= 5 ? 6 : 0);
       due.is(steps + " STEPS: pages", x.count(3), steps >= 7 ? 2 : 1);
     }
+    // nothing else is changed: neither LOCALS nor what is on the row
+    FoldForge sets = made(due, new Built().type(I32, I32, I32).function(0, 65, 5, 65, 6, 36, 0, 65, 7, 65, 9, 36, 1, 32, 0, 106,
+        106, 32, 1, 106).global(I32, 1, 65, 0).global(I32, 1, 65, 0).export("f", 0, 0));
+    gives(due, sets, 100, 1000, 1112, 11);
+    due.is("GLOBAL 0", sets.global(0), 6);
+    due.is("GLOBAL 1", sets.global(1), 9);
     FoldForge adds = made(due, new Built().type(I32, I32).function(0, 35, 0, 32, 0, 106, 36, 0, 35, 0)
         .global(I32, 1, 65, 0).export("f", 0, 0));
     for (int k = 1; k <= 5; k++) {

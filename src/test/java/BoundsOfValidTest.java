@@ -297,6 +297,12 @@ public final class BoundsOfValidTest {
       // what stood ahead of it is gone
       fits(due, 0, join(new int[] {65, 0, 66, 0}, end));
     }
+    // a block, and a CODE, that comes behind such a one begins anew
+    unfit(due, 0, 2, 64, 0, 11, 2, 64, 26, 11);
+    unfit(due, 0, 2, 64, 2, 64, 0, 11, 11, 2, 64, 2, 64, 26, 11, 11);
+    is(due, "a CODE behind one that ends so", new Built().type(0).function(0, 0).function(0, 26), INVALID);
+    is(due, "a CODE ahead of one that ends so", new Built().type(0).function(0, 26).function(0, 0), INVALID);
+    is(due, "two CODES that end so", new Built().type(0).function(0, 0, 26).function(0, 0, 26), 1);
     for (int[] one : goOn) {
       unfit(due, 0, join(one, new int[] {26}));
       unfit(due, 0, join(one, new int[] {106, 26}));
@@ -460,6 +466,18 @@ public final class BoundsOfValidTest {
       in = new Built().type(0).function(0, 2, 64, 2, 64, 11, 11, 0, 12, number);
       is(due, "blocks that are closed have no label: " + number, in, number < 1 ? 1 : INVALID);
     }
+    // each CODE has LOCALS of its own
+    byte[] small = Due.bytes(1, 50, I32);
+    byte[] great = Due.bytes(1, 50, I64);
+    Built both = new Built().type(I32).type(I64).function(0, small, Due.bytes(32, 49)).function(1, great,
+        Due.bytes(32, 49)).function(0, small, Due.bytes(32, 0));
+    is(due, "LOCALS of each CODE", both, 1);
+    both = new Built().type(I32).function(0, small, Due.bytes(32, 49)).function(0, great, Due.bytes(32, 49));
+    is(due, "LOCALS of the second CODE", both, INVALID);
+    both = new Built().type(I32).function(0, great, Due.bytes(32, 0)).function(0, small, Due.bytes(32, 0));
+    is(due, "LOCALS of the first CODE", both, INVALID);
+    both = new Built().type(I32).function(0, small, Due.bytes(32, 49)).function(0, 32, 0);
+    is(due, "no LOCALS of the second CODE", both, INVALID);
     int[] greatest = {0xFF, 0xFF, 0xFF, 0xFF, 15};
     int[] half = {0x80, 0x80, 0x80, 0x80, 8};
     for (int[] number : new int[][] {greatest, half}) {
