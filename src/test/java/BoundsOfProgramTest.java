@@ -121,11 +121,21 @@ public final class BoundsOfProgramTest {
   /** WORDS that differ in one or two signs are other WORDS. */
   private static void unlikeWords(Due due) {
     String signs = "abcdefghijklmnopqrstuvwxyz0123456789";
-    for (int i = 0; i < 36; i++) {
-      for (int j = 0; j < 36; j++) {
-        String one = "z" + signs.charAt(i);
-        String other = "z" + signs.charAt(j);
-        is(due, DEF + "let " + one + " = 1 in " + other + ";", i == j ? 1 : -1 - DEF.length() - 14);
+    for (String first : "a b m z".split(" ")) {
+      for (int i = 0; i < 36; i++) {
+        String one = first + signs.charAt(i);
+        String text = DEF + "let " + one + " = 1 in ";
+        // an object for a part of them: one has no more than 512 calls
+        for (int letter = 0; letter < 26; letter++) {
+          FoldForge x = new FoldForge();
+          for (int j = 0; j < 36; j++) {
+            String other = "" + signs.charAt(letter) + signs.charAt(j);
+            if (other.equals("in") || other.equals("if") || other.equals("do")) {
+              continue;
+            }
+            due.is(text + other, Due.program(x, text + other + ";"), one.equals(other) ? 1 : -1 - text.length());
+          }
+        }
       }
     }
     // each of ten signs counts, at any place, next to any other
